@@ -29,7 +29,7 @@ public final class ModelTest {
         for (int calls = 0; calls < 512; ) {
             int before = wrong;
             if (random.nextInt(90) == 0 || calls == 0) {
-                String text = text(random, seed % 3);
+                String text = seed % 60 == 59 ? denseText(random) : text(random, seed % 3);
                 for (int i = 0; i < text.length() && calls < 511; i++, calls++) {
                     due(told, "type(" + (int) text.charAt(i) + ")", x.type(text.charAt(i)), m.type(text.charAt(i)));
                 }
@@ -66,6 +66,15 @@ public final class ModelTest {
         return b.length() > 200 ? b.substring(0, 200) : b.toString();
     }
 
+    /** Nearly as many PLACES as there can be. */
+    private static String denseText(Random random) {
+        StringBuilder b = new StringBuilder();
+        while (b.length() < 200) {
+            b.append("ab,".charAt(random.nextInt(3))).append(b.length() % 16 == 14 ? " " : "/");
+        }
+        return b.substring(0, 199);
+    }
+
     /** A number that is mostly in 0 .. most, and now and then just past it. */
     private static int near(Random random, int most) {
         int n = random.nextInt(12);
@@ -91,7 +100,7 @@ public final class ModelTest {
             case 5: case 6: a = ".,-'.,-'/a".charAt(r.nextInt(10)); b = near(r, 10);
                 due(told, "hangs(" + a + ", " + b + ")", x.hangs(a, b), m.hangs(a, b)); break;
             case 7: case 8: case 9: a = near(r, 3);
-                b = a == 0 ? near(r, 9) : a == 1 ? (r.nextInt(3) == 0 ? 9 + near(r, 191) : 10 + r.nextInt(60)) : r.nextBoolean() ? near(r, 999) : r.nextInt(60);
+                b = a == 0 ? near(r, 9) : a == 1 ? (r.nextInt(3) == 0 ? 9 + near(r, 191) : 10 + r.nextInt(60)) : r.nextInt(3) == 0 ? 0 : r.nextBoolean() ? near(r, 999) : r.nextInt(60);
                 due(told, "sets(" + a + ", " + b + ")", x.sets(a, b), m.sets(a, b)); break;
             case 10: case 11: due(told, "undo()", x.undo(), m.undo()); break;
             case 12: case 13: case 14: case 15: a = near(r, 5);
