@@ -296,6 +296,18 @@ public final class MeasureBoundariesTest extends Sentences {
         y.forget();
         y.sees(1, 0);
         due("14, 15, 17 and from 26 on", y.unseenAll(), 3 + 175, 14, 200);
+        // The WORD behind PLACE 63, and the one behind PLACE 64.
+        String eight = "a/a/a/a/a/a/a/a ".repeat(8) + "bb bb";
+        due("behind the 64th", seenFar(eight, 1, 8).unseenAll(), 7, 10, 16);
+        Told next = seenFar("a " + eight, 1, 9);
+        due("behind the 65th", next.unseenAll(), 2, 10, 11);
+        next.forget();
+        next.sees(1, 0);
+        next.sees(9, 1);
+        due("behind the 65th, but not behind the first", next.unseen(1), 12);
+        next.forget();
+        next.sees(9, 0);
+        due("not behind the 65th", next.unseen(1), 17);
         Told far = new Told(FAR_PLACES);
         far.wide('a', 1);
         far.wide('b', 3);
@@ -304,6 +316,17 @@ public final class MeasureBoundariesTest extends Sentences {
         far.sees(12, 0);
         far.sees(13, 1);
         due("behind the 64th PLACE", far.unseenAll(), 2, 17, 18);
+    }
+
+    /** Two WORDS begin LINES, and none is parted. */
+    private static Told seenFar(String text, int one, int other) {
+        Told x = new Told(text);
+        x.wide('a', 1);
+        x.wide('b', 3);
+        x.sets(PARTED, 999);
+        x.sees(one, 1);
+        x.sees(other, 1);
+        return x;
     }
 
     private static void allElseAsNow() {

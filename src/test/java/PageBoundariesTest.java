@@ -169,6 +169,31 @@ public final class PageBoundariesTest extends Sentences {
         v.wide(',', 9);
         v.hangs(',', 10);
         due("bb- can't be, bb, can: all of the , hangs", v.ends(), 1, 2);
+        Told u = by(10, "a/bb. c");
+        u.wide('a', 0);
+        u.wide('.', 9);
+        u.hangs('.', 10);
+        u.sets(GAP, 9);
+        due("abb. is 17 wide, 9 of them hang", u.lineAll(0), 1, 17, 9, 2, 4, 0, 17);
+        Told t = by(20, "aaaa b b b b b cccc");
+        t.wide('b', 1);
+        due("many narrow words behind a wide one", t.ends(), 0, 5, 6);
+        due("leave 4 and 3", t.page(0), 16 + 9);
+        Told two = by(20, "aaaa aaaa b b b b b cccc");
+        two.wide('b', 1);
+        due("behind two wide ones", two.ends(), 0, 1, 6, 7);
+        Told most = by(200, "a ".repeat(30));
+        most.wide('a', 0);
+        most.sets(GAP, 6);
+        due("thirty words in a line", most.ends(), 29);
+        most.sets(GAP, 7);
+        due("29 blanks are 3 too wide", most.ends(), 28, 29);
+        Told parts = by(10, "a/a/a/a/a/a/a/a ".repeat(12) + "a/a/a/a");
+        parts.wide('a', 0);
+        parts.sets(GAP, 1);
+        due("a hundred PLACES, 12 blanks", parts.ends(), 87, 99);
+        parts.sets(MEASURE, 12);
+        due("in a line", parts.ends(), 99);
     }
 
     private static void squares() {
@@ -406,7 +431,15 @@ public final class PageBoundariesTest extends Sentences {
         due("the second above it", new int[] {second.blank(0, 0, 3), second.blank(0, 1, 3), second.blank(1, 0, 3)}, 0, 1, 0);
         Told first = stepped("d a b d f d f d f");
         due("the first above it", new int[] {first.blank(0, 0, 3), first.blank(0, 1, 3), first.blank(1, 0, 3)}, 1, 0, 0);
-        due("how many", stepped("d f d f d f id d f d f d f").page(4), 2);
+        Told many = stepped("d f d f d f id d f d f d f");
+        due("how many", many.page(4), 2);
+        many.sets(MEASURE, 26);
+        many.sets(MEASURE, 13);
+        due("how many again", many.page(4), 2);
+        Told gone = stepped("d f d f d f");
+        due("one", gone.page(4), 1);
+        gone.sets(MEASURE, 10);
+        due("none without blanks", gone.page(4), 0);
     }
 
     private static void longEnoughForASpring() {
@@ -422,6 +455,9 @@ public final class PageBoundariesTest extends Sentences {
         Told four = stepped("d f d f d f d f");
         due("4", springs(four), 1, 0, 0, 0);
         due("4 make one", four.page(4), 1);
+        Told six = stepped("d f d f d f d f d f d f");
+        due("6, of which each has one above but the first", springs(six), 1, 0, 0, 0, 0, 0);
+        due("6 make one", six.page(4), 1);
     }
 
     private static void rough() {
@@ -445,6 +481,12 @@ public final class PageBoundariesTest extends Sentences {
         due("one BLANK", by(60, "aaa b").page(5), 1);
         Told x = by(12, "aaa b");
         due("no BLANKS in two lines", x.page(5), 0);
+        Told y = new Told("a b c");
+        due("two BLANKS", y.page(5), 1);
+        y.sets(MEASURE, 10);
+        due("no BLANKS any more", y.page(5), 0);
+        y.sets(MEASURE, 11);
+        due("one BLANK again", y.page(5), 1);
         due("what -1", x.page(-1), BAD);
         due("what 6", x.page(6), BAD);
         due("what least", x.page(LEAST), BAD);
@@ -468,6 +510,16 @@ public final class PageBoundariesTest extends Sentences {
         due("the last", x.lineAll(99), 99, 9, 0, 1, 0, 0, 9);
         due("none behind it", x.line(100, 0), BAD);
         due("none of them ends at a /", by(60, "a/b c").page(2), 0);
+        Told y = by(10, "a/a/a/a/a/a/a/a ".repeat(12) + "a/a/y z");
+        y.wide('a', 9);
+        y.wide('-', 1);
+        y.wide('y', 2);
+        y.wide('z', 1);
+        due("99 lines", y.page(1), 99);
+        due("the last has the only blank", y.lineAll(98), 99, 6, 0, 4, 0, 1, 6);
+        due("which is there", y.blankAll(98, 0), 2, 5, 1, 0);
+        due("the line above has none", y.blank(97, 0, 0), NONE);
+        due("the greatest LONG", y.page(5), 1);
     }
 
     private static void noSuchLine() {

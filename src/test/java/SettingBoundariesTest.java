@@ -359,6 +359,7 @@ public final class SettingBoundariesTest extends Sentences {
         x.puts(0);
         x.puts(1);
         for (int i = 0; i < 6; i++) x.sees(1, i % 2);
+        due("old", x.unseenAll(), 0, NONE, NONE);
         x.sets(MEASURE, 99);
         x.keep(0);
         x.keep(1);
@@ -368,7 +369,8 @@ public final class SettingBoundariesTest extends Sentences {
         due("which is judged so", x.judgedAll(), 2, 0, NONE);
         due("and begins anew", x.puts(0), 1);
         due("nothing is SEEN", x.unseen(0), 191);
-        due("and there is room", x.sees(0, 1), 1);
+        due("and there is room", x.sees(1, 1), 1);
+        due("cd begins a line by 10 to 18", x.unseenAll(), 9, 10, 18);
         due("0 is gone", x.back(0), STATE);
         due("1 is gone", x.back(1), STATE);
         due("nothing can be UNDONE", x.undo(), STATE);

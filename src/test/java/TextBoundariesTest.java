@@ -13,6 +13,7 @@ public final class TextBoundariesTest extends Sentences {
         test("They are a text (200 letters at most), told letter by letter", TextBoundariesTest::aFullTextIsRead);
         test("THE TEXT is empty: how many letters it had.", TextBoundariesTest::cleared);
         test("THE TEXT tells all anew, and is empty then: how many WORDS.", TextBoundariesTest::toldAnew);
+        test("THE TEXT tells all anew", TextBoundariesTest::nothingOfTheOldText);
         test("-10 less FAULT", TextBoundariesTest::firstAndLastFault);
         test("nothing changes (THE TEXT stays, too)", TextBoundariesTest::aFaultChangesNothing);
         test("letters a .. z, MARKS . , - ' and /", TextBoundariesTest::signs);
@@ -131,6 +132,35 @@ public final class TextBoundariesTest extends Sentences {
         due("told by an empty text", x.words(), 0);
         due("none are there", x.word(0, -1), BAD);
         due("and no line", x.page(1), 0);
+    }
+
+    /** Each answer would be another one, if anything of the text ahead of it had stayed. */
+    private static void nothingOfTheOldText() {
+        Told x = new Told("a/b a ab/c d ab e");
+        due("all of the old one", x.pageAll(), 0, 1, 0, 0, 0, 1);
+        due("which measures", x.alike(0) + x.unseen(0), 146 + 191);
+        x.write("xx y xx z/z w");
+        due("words", x.words(), 5);
+        int[][] places = {{0, 2, 0}, {1, 1, 0}, {2, 2, 0}, {3, 1, 1}, {3, 2, 0}, {4, 1, 0}};
+        for (int p = 0; p < places.length; p++) due("place " + p, placeAll(x, p), places[p]);
+        int[][] different = {{0, 2}, {1, 1}, {3, 1}, {4, 1}, {NONE, NONE}};
+        for (int k = 0; k < different.length; k++) {
+            due("different " + k, new int[] {x.different(k, 0), x.different(k, 1)}, different[k]);
+        }
+        due("the only line", x.lineAll(0), 5, 8 + 4 + 8 + 8 + 4 + 4 * 3, 0, 60 - 44, 0, 4, 44);
+        x.sees(1, 1);
+        due("y begins a line by 10 to 14", x.unseenAll(), 5, 10, 14);
+        x.sets(1, 10);
+        due("ends", x.ends(), 0, 1, 2, 4, 5);
+        due("page", x.pageAll(), 4 + 36 + 4 + 4, 5, 0, 2 + 6 + 2 + 2, 0, 0);
+        due("alike", x.alikeAll(), 5, 10, 14);
+        Told y = new Told("a b a b a b a b");
+        y.sets(1, 12);
+        due("four lines and a river", y.pageAll(), 3, 4, 0, 0, 1, 4);
+        y.write("a b");
+        due("two words", y.words(), 2);
+        due("one line and no river", y.pageAll(), 0, 1, 0, 0, 0, 1);
+        due("its blank", y.blankAll(0, 0), 4, 7, 1, 0);
     }
 
     private static void firstAndLastFault() {
